@@ -428,6 +428,9 @@ public final class PromiseTests {
         due("filtered: sorted(5, 1, 3)", x.sorted(5, 1, 3), -6);
         x.remove(3);
         due("removed: sorted(5, 0, 0)", x.sorted(5, 0, 0), 2);
+        x.filterRange(5, 21, 999);
+        due("filtered by the number: sorted(5, 0, 0)", x.sorted(5, 0, 0), 4);
+        due("filtered by the number: sorted(5, 0, 1)", x.sorted(5, 0, 1), -6);
         for (int bad : new int[] {-1, 48, MIN, MAX}) {
             due("sorted(4, 0, " + bad + ")", x.sorted(4, 0, bad), -6);
         }
@@ -459,6 +462,10 @@ public final class PromiseTests {
         due("filtered: sum(3, 1, 4)", x.sum(3, 1, 4), 2);
         x.remove(0);
         due("removed: sum(0, 0, 4)", x.sum(0, 0, 4), -3);
+        x.filterRange(4, 0, 999);
+        due("filtered by the summed field: sum(0, 0, 4)", x.sum(0, 0, 4), 0);
+        x.release(0);
+        due("filtered by the summed field: sum(0, 4, 4)", x.sum(0, 4, 4), 99);
         for (int bad : new int[] {-1, 4, 5, 6, MIN, MAX}) {
             due("sum(" + bad + ", 0, 4)", x.sum(bad, 0, 4), -1000000);
             due("sum(" + bad + ", 10, 4)", x.sum(bad, 10, 4), -1000000);
@@ -498,7 +505,11 @@ public final class PromiseTests {
         due("extreme(91, 5)", x.extreme(91, 5), 0);
         x.filterTags(128, 2);
         due("filtered: extreme(41, 5)", x.extreme(41, 5), -999);
-        due("filtered: extreme(370, 5)", x.extreme(370, 5), -2002);
+        due("filtered by the group: extreme(370, 5)", x.extreme(370, 5), -2002);
+        x.filterRange(4, -2, 98);
+        due("filtered by the number: extreme(0, 4)", x.extreme(0, 4), 5);
+        due("filtered by the number: extreme(41, 4)", x.extreme(41, 4), -2002);
+        x.release(4);
         x.remove(3);
         due("removed: extreme(40, 5)", x.extreme(40, 5), -2002);
         for (int bad : new int[] {-1, -10, -100, MIN, 400, 401, 2, 9, 302, 399, 1000, MAX}) {

@@ -1,3 +1,7 @@
+import java.util.Set;
+import java.util.TreeSet;
+import java.util.function.Consumer;
+
 /** Each sentence of promises 1 to 8 that names a boundary, with a test of its own. */
 public final class ChangeTests extends Sentences {
     private static void newObject() {
@@ -43,6 +47,57 @@ public final class ChangeTests extends Sentences {
         test("Promise 2", "A term is not 0 to 9: -3; there are 48 documents: -4 (both)", ChangeTests::wrongTermsOfFull);
         test("Promise 2", "Else answers its number.", ChangeTests::answersNumber);
         test("Promise 2", "Makes a new document (with filters)", ChangeTests::madeUnderFilters);
+        test("Promise 2", "Makes a new document (and changes nothing else)", () -> {
+            changeNothing(Desk::empty, "make and remove", x -> thereAndBack(x, 0));
+            changeNothing(Desk::gapped, "make and remove", x -> thereAndBack(x, 3));
+        });
+        test("Promise 2", "Makes a new document (the filters stay)", () -> {
+            int next = Desk.edgeRows().length;
+            filtersStay(x -> x.due(next, "make", 9, 9, 9));
+        });
+    }
+
+    private static void thereAndBack(Desk x, int document) {
+        x.due(document, "make", 5, 6, 7);
+        x.ask("remove", document);
+    }
+
+    private static void filtersStay(Consumer<Desk> calls) {
+        filtersStayBut(-1, calls);
+    }
+
+    /** The calls may change the last document of the edges, as long as it goes on failing by its number in field 5. */
+    private static void filtersStayBut(int released, Consumer<Desk> calls) {
+        Desk x = Desk.edges();
+        calls.accept(x);
+        int[][] rows = Desk.edgeRows();
+        Set<Integer> due = new TreeSet<>();
+        for (int d = 0; d < rows.length; d++) {
+            if (passesAllBut(released, rows[d])) {
+                due.add(d);
+            }
+        }
+        Set<Integer> matching = new TreeSet<>();
+        for (int k = 0; k < due.size(); k++) {
+            matching.add(x.ask("sorted", 4, 0, k));
+        }
+        x.due(due.size(), "matching");
+        if (!matching.equals(due)) {
+            fail("the documents " + matching + " match, due are " + due);
+        }
+        for (int d = 0; d < rows.length - 1; d++) {
+            for (int field : FIELDS) {
+                x.due(rows[d][field], "valueOf", d, field);
+            }
+        }
+    }
+
+    private static boolean passesAllBut(int released, int[] row) {
+        boolean passes = true;
+        for (int field : FIELDS) {
+            passes &= field == released || Desk.passesEdge(row, field);
+        }
+        return passes;
     }
 
     private static void makesTerms() {
@@ -144,7 +199,10 @@ public final class ChangeTests extends Sentences {
     private static void remove() {
         test("Promise 3", "Takes a document out.", ChangeTests::takesOut);
         test("Promise 3", "Takes a document out. (the others stay)", ChangeTests::othersStay);
-        test("Promise 3", "Takes a document out. (the filters stay)", ChangeTests::filtersStay);
+        test("Promise 3", "Takes a document out. (the filters stay)", () -> {
+            int last = Desk.edgeRows().length - 1;
+            filtersStay(x -> x.due(last, "remove", last));
+        });
         test("Promise 3", "Document: -1.", ChangeTests::removeNoDocument);
         test("Promise 3", "Else answers how many are left.", ChangeTests::howManyAreLeft);
     }
@@ -192,18 +250,6 @@ public final class ChangeTests extends Sentences {
         }
     }
 
-    private static void filtersStay() {
-        Desk x = Desk.fence();
-        for (int d = 0; d < 8; d++) {
-            x.ask("remove", d);
-        }
-        x.due(0, "make", 0, 0, 0);
-        x.due(0, "matching");
-        x.due(1, "release", 3);
-        x.due(1, "set", 0, 5, 11);
-        x.due(0, "matching");
-    }
-
     private static void removeNoDocument() {
         for (int bad : new int[] {-1, 0, 47, 48, MIN, MAX}) {
             Desk.empty().due(-1, "remove", bad);
@@ -233,23 +279,39 @@ public final class ChangeTests extends Sentences {
     }
 
     private static void set() {
+        String range = "value is not in the field's range (0 to 9, 0 to 255, or -999 to 999): -3";
         test("Promise 4", "Gives a document another term, set or number in a field.", ChangeTests::givesAnother);
         test("Promise 4", "Gives a document another term, set or number in a field. (it does not match)",
             ChangeTests::givesWithoutMatching);
+        test("Promise 4", "Gives a document another term, set or number in a field. (and changes nothing else)", () -> {
+            int[] had = {0, 0, 0, 1, 0, 0};
+            for (int field : FIELDS) {
+                changeNothing(Desk::gapped, "set and set back", x -> {
+                    x.ask("set", 0, field, 7);
+                    x.ask("set", 0, field, had[field]);
+                });
+            }
+        });
+        test("Promise 4", "Gives a document another term, set or number in a field. (the filters stay)", () -> {
+            int last = Desk.edgeRows().length - 1;
+            for (int field : FIELDS) {
+                filtersStay(x -> x.due(1, "set", last, field, field < 3 ? 9 : 99));
+                filtersStay(x -> x.due(0, "set", last, field, x.ask("valueOf", last, field)));
+            }
+        });
         test("Promise 4", "Document: -1", ChangeTests::setNoDocument);
         test("Promise 4", "field: -2", ChangeTests::setNoField);
-        test("Promise 4", "value is not in the field's range (0 to 9): -3", () -> {
+        test("Promise 4", range + " (a term)", () -> {
             for (int field : TERM_FIELDS) {
                 valuesOf(field, 0, 9);
             }
         });
-        test("Promise 4", "value is not in the field's range (0 to 255): -3", () -> valuesOf(3, 0, 255));
-        test("Promise 4", "value is not in the field's range (-999 to 999): -3", () -> {
+        test("Promise 4", range + " (a set)", () -> valuesOf(3, 0, 255));
+        test("Promise 4", range + " (a number)", () -> {
             valuesOf(4, -999, 999);
             valuesOf(5, -999, 999);
         });
-        test("Promise 4", "Document: -1; field: -2; value is not in the field's range: -3 (more than one of them)",
-            ChangeTests::setOrder);
+        test("Promise 4", "Document: -1; field: -2; " + range + " (more than one of them)", ChangeTests::setOrder);
         test("Promise 4", "Else answers 1 if it had another one, else 0.", ChangeTests::hadAnother);
     }
 
@@ -353,6 +415,19 @@ public final class ChangeTests extends Sentences {
 
     private static void filterTerms() {
         test("Promise 5", "Sets the filter of a term field.", ChangeTests::filtersTermFields);
+        test("Promise 5", "Sets the filter of a term field. (and changes nothing else)", () -> {
+            for (int field : TERM_FIELDS) {
+                changeNothing(Desk::gapped, "filterTerms and filterTerms back", x -> {
+                    x.ask("filterTerms", field, 512);
+                    filterAgain(x, field);
+                });
+            }
+        });
+        test("Promise 5", "Sets the filter of a term field. (the others stay)", () -> {
+            for (int field : TERM_FIELDS) {
+                filtersStayBut(field, x -> x.ask("filterTerms", field, 1023));
+            }
+        });
         test("Promise 5", "Field: -2", () -> {
             for (int bad : NOT_TERM_FIELDS) {
                 Desk.fence().due(-2, "filterTerms", bad, 1);
@@ -368,6 +443,17 @@ public final class ChangeTests extends Sentences {
             }
         });
         test("Promise 5", "Else answers how many documents match.", ChangeTests::matchTerms);
+    }
+
+    /** The filter that the field has on a gapped desk. */
+    private static void filterAgain(Desk x, int field) {
+        if (field < 3) {
+            x.ask("filterTerms", field, 0b0000011111);
+        } else if (field == 3) {
+            x.ask("filterTags", 0b00000001, 0);
+        } else {
+            x.ask("filterRange", field, -10, 10);
+        }
     }
 
     private static void filtersTermFields() {
@@ -412,6 +498,14 @@ public final class ChangeTests extends Sentences {
             x.due(1, "sorted", 4, 0, 0);
             x.due(1, "facet", 3, 0);
         });
+        test("Promise 6", "Sets the filter of the set field. (and changes nothing else)", () -> {
+            changeNothing(Desk::gapped, "filterTags and filterTags back", x -> {
+                x.ask("filterTags", 128, 2);
+                filterAgain(x, 3);
+            });
+        });
+        test("Promise 6", "Sets the filter of the set field. (the others stay)",
+            () -> filtersStayBut(3, x -> x.ask("filterTags", 64, 2)));
         test("Promise 6", "tags is not 1 to 255: -3", ChangeTests::wrongTagSets);
         test("Promise 6", "mode is not 0 to 2: -5", ChangeTests::wrongModes);
         test("Promise 6", "tags is not 1 to 255: -3; mode is not 0 to 2: -5 (both)", () -> {
@@ -474,6 +568,19 @@ public final class ChangeTests extends Sentences {
                 x.due(field - 4, "sorted", 4, 0, 0);
             }
         });
+        test("Promise 7", "Sets the filter of a number field (and changes nothing else)", () -> {
+            for (int field : NUMBER_FIELDS) {
+                changeNothing(Desk::gapped, "filterRange and filterRange back", x -> {
+                    x.ask("filterRange", field, 1, 0);
+                    filterAgain(x, field);
+                });
+            }
+        });
+        test("Promise 7", "Sets the filter of a number field (the others stay)", () -> {
+            for (int field : NUMBER_FIELDS) {
+                filtersStayBut(field, x -> x.ask("filterRange", field, MIN, MAX));
+            }
+        });
         test("Promise 7", "any ints", ChangeTests::anyRange);
         test("Promise 7", "no number is in it if least is above greatest", ChangeTests::turnedRange);
         test("Promise 7", "Field: -2.", () -> {
@@ -506,7 +613,8 @@ public final class ChangeTests extends Sentences {
 
     private static void turnedRange() {
         for (int field : NUMBER_FIELDS) {
-            Desk x = Desk.of(Desk.row(0, 0, 0, 0, -999, -999), Desk.row(0, 0, 0, 0, 0, 0), Desk.row(0, 0, 0, 0, 999, 999));
+            Desk x = Desk.of(
+                Desk.row(0, 0, 0, 0, -999, -999), Desk.row(0, 0, 0, 0, 0, 0), Desk.row(0, 0, 0, 0, 999, 999));
             x.due(0, "filterRange", field, 1, 0);
             x.due(0, "filterRange", field, 0, -1);
             x.due(0, "filterRange", field, 999, -999);
@@ -533,6 +641,19 @@ public final class ChangeTests extends Sentences {
     private static void release() {
         test("Promise 8", "Takes the filter of a field away.", ChangeTests::takesAway);
         test("Promise 8", "Takes the filter of a field away. (there is none)", ChangeTests::takesNothingAway);
+        test("Promise 8", "Takes the filter of a field away. (and changes nothing else)", () -> {
+            for (int field : FIELDS) {
+                changeNothing(Desk::gapped, "release and filter again", x -> {
+                    x.ask("release", field);
+                    filterAgain(x, field);
+                });
+            }
+        });
+        test("Promise 8", "Takes the filter of a field away. (the others stay)", () -> {
+            for (int field : FIELDS) {
+                filtersStayBut(field, x -> x.ask("release", field));
+            }
+        });
         test("Promise 8", "Field: -2.", () -> {
             for (int bad : NOT_FIELDS) {
                 Desk.empty().due(-2, "release", bad);

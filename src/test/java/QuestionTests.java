@@ -164,7 +164,8 @@ public final class QuestionTests extends Sentences {
     }
 
     private static void topTerm() {
-        test("Promise 13", "Of the terms (or tags) with a facet above 0", QuestionTests::termsWithAFacet);
+        test("Promise 13", "Of the terms (or tags) of a term field (or the set field) with a facet above 0",
+            QuestionTests::termsWithAFacet);
         test("Promise 13", "the k-th (0 for the first)", QuestionTests::everyTerm);
         test("Promise 13", "when those with the greater facet come first", QuestionTests::greaterFacetFirst);
         test("Promise 13", "and of equal ones the lesser term", QuestionTests::lesserTermFirst);
@@ -490,7 +491,8 @@ public final class QuestionTests extends Sentences {
             }
         });
         test("Promise 17", "or tag not 0 to 7: -1000001", () -> sumOfNoTerm(3));
-        test("Promise 17", "group is not 0 to 3, or field not 4 or 5: -1000000; term is not 0 to 9: -1000001 (both)", () -> {
+        String refusals = "group is not 0 to 3, or field not 4 or 5: -1000000; term is not 0 to 9, or tag not 0 to 7: -1000001";
+        test("Promise 17", refusals + " (both)", () -> {
             for (int noTerm : NOT_TERMS) {
                 for (int noGroup : NOT_GROUP_FIELDS) {
                     Desk.fence().due(-1000000, "sum", noGroup, noTerm, 4);
@@ -557,7 +559,8 @@ public final class QuestionTests extends Sentences {
     private static void extreme() {
         test("Promise 18", "The least (which 0)", () -> extremeOf(0, -999));
         test("Promise 18", "or greatest (which 1) number", () -> extremeOf(1, 999));
-        test("Promise 18", "of the matching documents with a term (or tag) in a group field", QuestionTests::extremeOfMatching);
+        test("Promise 18", "of the matching documents with a term (or tag) in a group field",
+            QuestionTests::extremeOfMatching);
         test("Promise 18", "group is not 0 to 3", () -> {
             for (int what : new int[] {400, 401, 491, 500, 1000, MAX - 7, MAX}) {
                 Desk.full().due(-2000, "extreme", what, 4);
@@ -597,8 +600,8 @@ public final class QuestionTests extends Sentences {
             }
         });
         test("Promise 18", "what = 100 * group + 10 * term + which", QuestionTests::packing);
-        test("Promise 18", "-2000; term is not 0 to 9, or tag not 0 to 7: -2001; there are no such documents: -2002 (both)",
-            QuestionTests::extremeOrder);
+        String refusals = "-2000; term is not 0 to 9, or tag not 0 to 7: -2001; there are no such documents: -2002";
+        test("Promise 18", refusals + " (more than one of them)", QuestionTests::extremeOrder);
     }
 
     private static void extremeOf(int which, int end) {
@@ -689,6 +692,7 @@ public final class QuestionTests extends Sentences {
                 x.due(2, "different", field);
                 x.ask("remove", 0);
                 x.due(1, "different", field);
+                lastOfThreeMatches().due(1, "different", field);
             }
         });
         test("Promise 19", "the matching documents have in a field (none there, or none that match)", () -> {
@@ -705,6 +709,17 @@ public final class QuestionTests extends Sentences {
         });
     }
 
+    /** A value must not pass for seen because a document has it that does not match. */
+    private static Desk lastOfThreeMatches() {
+        Desk x = Desk.alike(3, 9, 9, 9, 255, 999, 999);
+        x.ask("set", 2, 5, 0);
+        x.ask("filterRange", 5, 0, 0);
+        x.ask("set", 1, 5, 0);
+        x.ask("remove", 1);
+        x.due(1, "matching");
+        return x;
+    }
+
     private static void differentValues() {
         int[] ofFull = {10, 5, 10, 48, 48, 48};
         for (int field : FIELDS) {
@@ -717,7 +732,8 @@ public final class QuestionTests extends Sentences {
         for (int field : FIELDS) {
             ends.due(2, "different", field);
         }
-        Desk.of(Desk.row(0, 0, 0, 3, 0, 0), Desk.row(0, 0, 0, 1, 0, 0), Desk.row(0, 0, 0, 2, 0, 0)).due(3, "different", 3);
+        Desk sets = Desk.of(Desk.row(0, 0, 0, 3, 0, 0), Desk.row(0, 0, 0, 1, 0, 0), Desk.row(0, 0, 0, 2, 0, 0));
+        sets.due(3, "different", 3);
     }
 
     private static void pairs() {
@@ -767,6 +783,7 @@ public final class QuestionTests extends Sentences {
         x.due(2, "pairs", field, other);
         x.ask("remove", field + 1);
         x.due(1, "pairs", field, other);
+        lastOfThreeMatches().due(1, "pairs", field, other);
         // The terms 0 and 9 are there in both fields, but not all four pairs of them in one document.
         Desk apart = Desk.of(Desk.row(0, 0, 0, 0, 0, 0), Desk.row(9, 9, 9, 0, 0, 0));
         apart.due(2, "pairs", field, other);

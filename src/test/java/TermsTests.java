@@ -328,7 +328,7 @@ public final class TermsTests extends Sentences {
         for (int bad : new int[] {0, 47}) {
             refused(Desk::empty, -1, "remove", bad);
         }
-        refused(starts().get(1), -1, "remove", 3);
+        refused(Desk::gapped, -1, "remove", 3);
     }
 
     private static void refusedSet() {
@@ -338,14 +338,14 @@ public final class TermsTests extends Sentences {
             }
             refused(Desk::empty, -1, "set", 0, field, 1);
             refused(Desk::fence, -1, "set", 8, field, 1);
-            refused(starts().get(1), -1, "set", 3, field, 1);
+            refused(Desk::gapped, -1, "set", 3, field, 1);
             for (int bad : new int[] {-1000, field < 3 ? 10 : field == 3 ? 256 : 1000, MIN, MAX}) {
-                refused(Desk::fence, -3, "set", 0, field, bad);
+                refused(Desk::gapped, -3, "set", 0, field, bad);
                 refused(Desk::fullFiltered, -3, "set", 47, field, bad);
             }
         }
         for (int bad : NOT_FIELDS) {
-            refused(Desk::fence, -2, "set", 1, bad, 1);
+            refused(Desk::gapped, -2, "set", 1, bad, 1);
             refused(Desk::fullFiltered, -2, "set", 47, bad, 1);
             refused(Desk::fullFiltered, -2, "set", 0, bad, 1);
         }

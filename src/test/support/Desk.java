@@ -1,4 +1,6 @@
+import java.util.ArrayList;
 import java.util.Arrays;
+import java.util.List;
 import java.util.stream.Collectors;
 
 /** A FacetDesk whose calls are told by their names, so that a wrong answer can be printed with its call. */
@@ -58,7 +60,47 @@ final class Desk {
         return x;
     }
 
-    /** 48 documents without filters, each with other numbers, with another set and with another pair in fields 0 and 1. */
+    /** Has the documents 0 to 7 but not 3. */
+    static Desk gapped() {
+        Desk x = fence();
+        x.ask("remove", 3);
+        return x;
+    }
+
+    /** Filters on all fields, and documents on both sides of each end of each filter; they pass the other filters. */
+    static Desk edges() {
+        Desk x = of(edgeRows());
+        x.ask("filterTerms", 0, 0b0000011111);
+        x.ask("filterTerms", 1, 0b0000011111);
+        x.ask("filterTerms", 2, 0b0000011111);
+        x.ask("filterTags", 0b00000011, 0);
+        x.ask("filterRange", 4, -10, 10);
+        x.ask("filterRange", 5, -10, 10);
+        return x;
+    }
+
+    static int[][] edgeRows() {
+        int[][] edges = {
+            {0, 1, 2, 3, 4, 5, 6, 7, 8, 9}, {1, 2, 3, 4, 5, 6, 7, 8, 9}, {1, 2, 3, 4, 5, 6, 7, 8, 9},
+            {0, 2, 3, 4, 129}, {-11, -10, 10, 11}, {-11, -10, 10, 11}};
+        List<int[]> rows = new ArrayList<>();
+        for (int field = 0; field < 6; field++) {
+            for (int value : edges[field]) {
+                int[] row = {0, 0, 0, 1, 0, 0};
+                row[field] = value;
+                rows.add(row);
+            }
+        }
+        return rows.toArray(new int[0][]);
+    }
+
+    /** Whether a document with these values passes the filter that the field has on the desk of edges. */
+    static boolean passesEdge(int[] row, int field) {
+        int value = row[field];
+        return field < 3 ? value <= 4 : field == 3 ? (value & 0b00000011) != 0 : value >= -10 && value <= 10;
+    }
+
+    /** 48 documents without filters, each with numbers, a set and a pair of terms in fields 0 and 1 of its own. */
     static Desk full() {
         Desk x = new Desk();
         for (int d = 0; d < 48; d++) {

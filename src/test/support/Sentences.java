@@ -1,5 +1,6 @@
 import java.util.ArrayList;
 import java.util.List;
+import java.util.function.Consumer;
 import java.util.function.Supplier;
 
 /** What tests share that each stand for one sentence of the document: a wrong answer is printed under its sentence. */
@@ -64,21 +65,21 @@ abstract class Sentences {
 
     /** Desks on which a change by a call that must change nothing would show: without documents, with a gap, full. */
     static List<Supplier<Desk>> starts() {
-        return List.of(Desk::empty, () -> {
-            Desk x = Desk.fence();
-            x.ask("remove", 3);
-            return x;
-        }, Desk::fullFiltered);
+        return List.of(Desk::empty, Desk::gapped, Desk::fullFiltered);
     }
 
     static void changesNothing(Supplier<Desk> start, String name, int... given) {
+        changeNothing(start, Desk.text(name, given), x -> x.ask(name, given));
+    }
+
+    static void changeNothing(Supplier<Desk> start, String what, Consumer<Desk> calls) {
         Supplier<Desk> after = () -> {
             Desk x = start.get();
-            x.ask(name, given);
+            calls.accept(x);
             return x;
         };
         if (!everythingOf(start).equals(everythingOf(after))) {
-            fail(Desk.text(name, given) + " changed something");
+            fail(what + " changed something");
         }
     }
 

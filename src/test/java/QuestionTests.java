@@ -491,7 +491,8 @@ public final class QuestionTests extends Sentences {
             }
         });
         test("Promise 17", "or tag not 0 to 7: -1000001", () -> sumOfNoTerm(3));
-        String refusals = "group is not 0 to 3, or field not 4 or 5: -1000000; term is not 0 to 9, or tag not 0 to 7: -1000001";
+        String refusals = "group is not 0 to 3, or field not 4 or 5: -1000000; "
+            + "term is not 0 to 9, or tag not 0 to 7: -1000001";
         test("Promise 17", refusals + " (both)", () -> {
             for (int noTerm : NOT_TERMS) {
                 for (int noGroup : NOT_GROUP_FIELDS) {

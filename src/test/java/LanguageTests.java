@@ -9,7 +9,9 @@ import java.util.ArrayDeque;
 import java.util.Deque;
 import java.util.HashSet;
 import java.util.List;
+import java.util.Map;
 import java.util.Set;
+import java.util.TreeMap;
 import java.util.TreeSet;
 import java.util.regex.Matcher;
 import java.util.regex.Pattern;
@@ -108,6 +110,81 @@ public final class LanguageTests {
         }
     }
 
+    /** A loop's own line must show its end; nothing inside may move its counter or its bound. */
+    private static void countedLoops(String source) {
+        Pattern counted = Pattern.compile("for \\(int (\\w+) = 0; \\1 < (\\w+); \\1\\+\\+\\)");
+        for (String body : bodies(source).values()) {
+            hold(!Pattern.compile("\\b(while|do)\\b").matcher(body).find(), "rule 8: a loop without a counter");
+            Matcher loop = Pattern.compile("\\bfor\\b[^\n]*").matcher(body);
+            while (loop.find()) {
+                Matcher head = counted.matcher(loop.group());
+                if (!head.lookingAt()) {
+                    hold(false, "rule 8: " + loop.group());
+                    continue;
+                }
+                String inside = body.substring(loop.end());
+                boolean moved = isAssigned(inside, head.group(1)) || isAssigned(inside, head.group(2));
+                hold(!moved, "rule 8: moved inside: " + loop.group());
+            }
+        }
+    }
+
+    private static boolean isAssigned(String code, String name) {
+        String behind = "\\b" + name + "\\s*(([-+*/%&|^]|<<|>>>?)?=[^=]|--|\\+\\+)";
+        String ahead = "(--|\\+\\+)\\s*" + name + "\\b";
+        return Pattern.compile(behind + "|" + ahead).matcher(code.replaceAll("for \\(int [^\n]*", "")).find();
+    }
+
+    private static Map<String, String> bodies(String source) {
+        Map<String, String> bodies = new TreeMap<>();
+        String head = "^ {4}(?:public|private) (?:static )?(?:\\w+ )?(\\w+)\\([^)]*\\) \\{$";
+        Matcher method = Pattern.compile("(?ms)" + head + "(.*?)^ {4}\\}$").matcher(source);
+        while (method.find()) {
+            bodies.put(method.group(1), method.group(2));
+        }
+        int constructors = 1;
+        int methods = FacetDesk.class.getDeclaredMethods().length + constructors;
+        hold(bodies.size() == methods, "only " + bodies.size() + " of " + methods + " methods are found in the source");
+        return bodies;
+    }
+
+    private static Set<String> callsIn(String body, Set<String> methods) {
+        Set<String> calls = new TreeSet<>();
+        Matcher call = Pattern.compile("\\b(\\w+)\\(").matcher(body);
+        while (call.find()) {
+            if (methods.contains(call.group(1))) {
+                calls.add(call.group(1));
+            }
+        }
+        return calls;
+    }
+
+    /** Chains that go on growing are those of a recursion, so it breaks the same bound. */
+    private static void shallowCalls(String source) {
+        Map<String, String> bodies = bodies(source);
+        Set<String> reached = bodies.keySet();
+        for (int deep = 1; deep <= 6; deep++) {
+            Set<String> next = new TreeSet<>();
+            for (String method : reached) {
+                next.addAll(callsIn(bodies.get(method), bodies.keySet()));
+            }
+            reached = next;
+        }
+        hold(reached.isEmpty(), "rules 8 and 10: called more than six deep: " + reached);
+    }
+
+    /** Without a whole array at the left of an assignment, in a comparison or in an answer, it is only looked into. */
+    private static void arraysStay(String source) {
+        for (Field field : FacetDesk.class.getDeclaredFields()) {
+            if (field.getType().isArray()) {
+                Matcher use = Pattern.compile("\\b" + field.getName() + "\\b(?!\\[)[^\n]*").matcher(source);
+                while (use.find()) {
+                    hold(use.group().contains(" = new "), "rule 4: " + use.group());
+                }
+            }
+        }
+    }
+
     private static void shortMethods(String source) {
         int start = 0;
         String[] lines = source.split("\n");
@@ -126,6 +203,9 @@ public final class LanguageTests {
         fields();
         words(code);
         noCallInsideArguments(code);
+        countedLoops(code);
+        shallowCalls(code);
+        arraysStay(code);
         shortMethods(code);
         System.out.println(wrong == 0 ? "the class keeps to the rules looked at" : wrong + " breaches");
         if (wrong != 0) {
